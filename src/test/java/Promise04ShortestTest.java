@@ -15,6 +15,8 @@ final class Promise04ShortestTest {
         shortestOf(1800, 30, 30, -30, 30);
         shortestOf(1800, 30, -30, 30, 30);
         shortestOf(1741, 30, 29, -29, 30);
+        // The shortest point, (0, 34), has a greater number than any step may have.
+        shortestOf(1156, 30, -17, -30, -17);
         Check.end();
     }
 

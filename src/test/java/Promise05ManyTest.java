@@ -21,6 +21,8 @@ final class Promise05ManyTest {
         manyOf(2, 8, 0, 4, 7);
         // Equally long steps whose difference is shorter than both.
         manyOf(2, 15, 0, 9, 12);
+        // The shortest points, (0, 34) and (0, -34), have a greater number than a step may have.
+        manyOf(2, 30, -17, -30, -17);
         Check.end();
     }
 

@@ -18,6 +18,8 @@ final class Promise06SecondTest {
         secondOf(1800, 1, -1, 30, 30);
         secondOf(1800, 30, -30, -1, -1);
         secondOf(1800, 30, 30, 29, -29);
+        // The second is (-5, -42), beyond what a step may be; no point needs a greater number.
+        secondOf(1789, 25, -12, -30, -30);
         Check.end();
     }
 
